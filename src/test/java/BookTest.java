@@ -146,6 +146,11 @@ public final class BookTest {
         Checks.due("liars(), all", x.liars(), 15);
         x.reading(0, 0, 44, 0);
         Checks.due("liars(), the first", x.liars(), 1);
+        EnginesOnList y = new EnginesOnList();
+        y.reading(0, 0, 44, 0);
+        y.reading(0, 0, 44, 2);
+        y.reading(0, 0, 44, 2);
+        Checks.due("liars(), a later boy made up more", y.liars(), 4);
     }
 
     private static void clashes() {
@@ -193,6 +198,9 @@ public final class BookTest {
         Checks.due("sure(), made up", x.sure(), 3);
         x.reading(2, 2, 83, 0);
         Checks.due("sure(), all", x.sure(), 7);
+        EnginesOnList one = Checks.with("e33k00000000;");
+        one.reading(0, 0, 38, 0);
+        Checks.due("sure(), by the only reading", one.sure(), 1);
     }
 
     private static void manyByNumbers() {

@@ -20,6 +20,10 @@ public final class CompanyTest {
         Checks.due("pairs(8, 0)", x.pairs(8, 0), 1);
         Checks.due("pairs(9, 0)", x.pairs(9, 0), 0);
         Checks.due("pairs(9, 1)", x.pairs(9, 1), -9);
+        EnginesOnList first = Checks.with("e10c01000000;e11c02000000;");
+        Checks.due("pairs(7, 0), unlike on the first day", first.pairs(7, 0), 0);
+        first.rest(1);
+        Checks.due("pairs(6, 0) from the second", first.pairs(6, 0), 1);
         EnginesOnList sheds = Checks.with("e10c09999999;e11a00123401;e12x09999999;e13c09999994;");
         Checks.due("pairs(60, 0) in sheds", sheds.pairs(60, 0), 3);
         Checks.due("pairs(60, 1) in sheds", sheds.pairs(60, 1), 1);

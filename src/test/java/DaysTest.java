@@ -26,6 +26,7 @@ public final class DaysTest {
         Checks.due("stand(3)", x.stand(3), 1);
         Checks.due("count(1)", x.count(1), 4);
         Checks.due("engine(0, 4)", x.engine(0, 4), 1);
+        Checks.due("count(2), earlier ones stay underlined", x.count(2), 3);
         Checks.refused(x, "stand(-1)", () -> x.stand(-1), -1);
         Checks.refused(x, "stand(5)", () -> x.stand(5), -1);
         Checks.due("count(1)", x.count(1), 4);

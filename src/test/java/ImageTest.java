@@ -3,6 +3,7 @@ public final class ImageTest {
     public static void main(String[] args) {
         images();
         staysBehindOn();
+        theBookIsAsThen();
         isNotTouchedByLaterCalls();
         emptyImage();
         counts();
@@ -62,6 +63,24 @@ public final class ImageTest {
         Checks.due("image() anew", x.image(), 3);
         x.rest(4);
         Checks.due("on() from the later one", x.on(), 3);
+    }
+
+    private static void theBookIsAsThen() {
+        EnginesOnList x = Checks.with("e33c00123401;e44c01234012;e50k20000000;");
+        x.reading(3, 3, 33, 1);
+        x.reading(2, 3, 44, 2);
+        x.image();
+        x.forget();
+        x.forget();
+        x.reading(4, 1, 50, 3);
+        x.reading(4, 0, 50, 3);
+        Checks.due("clash(0)", x.clash(0), 1);
+        Checks.due("madeUp()", x.madeUp(), 3);
+        x.on();
+        Checks.due("clash(0) as then", x.clash(0), 0);
+        Checks.due("fitting(0, 0) as then", x.fitting(0, 0), 1);
+        Checks.due("fitting(1, 1) as then", x.fitting(1, 1), 2);
+        Checks.due("madeUp() as then", x.madeUp(), 0);
     }
 
     private static void isNotTouchedByLaterCalls() {

@@ -152,6 +152,11 @@ public final class LandTest {
         Checks.due("on the friend's list twice", Checks.land(x, "f10;f10;f10;"), 3);
         Checks.due("count(2)", x.count(2), 1);
         Checks.due("count(7)", x.count(7), 1);
+        Checks.due("others of both lists", Checks.land(x, "e11c00000000;e12c00000000;u11;f12;"), 4);
+        Checks.due("count(2), both", x.count(2), 2);
+        Checks.due("count(7), both", x.count(7), 2);
+        Checks.due("engine(0, 4)", x.engine(0, 4), 1);
+        Checks.due("engine(0, 5)", x.engine(0, 5), 1);
     }
 
     private static void roomForSeven() {

@@ -153,6 +153,8 @@ public final class PlansTest {
         y.underline(0, 1);
         Checks.due("ever(), one joined is had", y.ever(), 1);
         Checks.due("ever() without engines", new EnginesOnList().ever(), 0);
+        EnginesOnList z = Checks.with("e10n09999999;");
+        Checks.due("ever(), always in its shed", z.ever(), 0);
     }
 
     private static void alls() {
