@@ -82,7 +82,7 @@ public final class EnginesOnList {
         }
         switch (what) {
             case 0:
-                return fleet.numbers[engine];
+                return fleet.number(engine);
             case 1:
                 return fleet.kinds[engine];
             case 2:
@@ -478,7 +478,6 @@ public final class EnginesOnList {
         return statements;
     }
 
-    /** The letters of a land that is still being told. */
     private static final class Letters {
         private final int[] signs = new int[MOST_LETTERS];
         private int size;
@@ -556,7 +555,6 @@ public final class EnginesOnList {
         }
     }
 
-    /** The engines that were told, and both lists of them. */
     private static final class Fleet {
         private final int[] numbers = new int[MOST_ENGINES];
         private final int[] kinds = new int[MOST_ENGINES];
@@ -584,9 +582,13 @@ public final class EnginesOnList {
             return engine >= 0 && engine < size && engine < MOST_ENGINES;
         }
 
+        private int number(int engine) {
+            return knows(engine) ? numbers[engine] : NONE;
+        }
+
         private int numbered(int number) {
-            for (int e = 0; knows(e); e++) {
-                if (numbers[e] == number) {
+            for (int e = 0; e < size; e++) {
+                if (number(e) == number) {
                     return e;
                 }
             }
@@ -678,7 +680,7 @@ public final class EnginesOnList {
 
         private int passing(int place, int day) {
             int bits = 0;
-            for (int e = 0; knows(e); e++) {
+            for (int e = 0; e < size; e++) {
                 if (placeOn(e, day) == place) {
                     bits |= bit(e);
                 }
@@ -699,7 +701,7 @@ public final class EnginesOnList {
         /** The stand-ins (bits) of those among these that he has not. */
         private int newOf(int bits) {
             int fresh = 0;
-            for (int e = 0; knows(e); e++) {
+            for (int e = 0; e < size; e++) {
                 if ((bits & bit(e)) != 0 && !isOn(underlined, e)) {
                     fresh |= bit(standIn(e));
                 }
@@ -717,7 +719,7 @@ public final class EnginesOnList {
 
         private int worthBeyondFriend() {
             int beyond = 0;
-            for (int e = 0; knows(e); e++) {
+            for (int e = 0; e < size; e++) {
                 if (isOn(underlined, e) && !isOn(friends, e)) {
                     beyond |= bit(standIn(e));
                 }
@@ -726,7 +728,6 @@ public final class EnginesOnList {
         }
     }
 
-    /** The readings, in the order in which they came. */
     private static final class Book {
         private final int[] days = new int[MOST_READINGS];
         private final int[] places = new int[MOST_READINGS];
@@ -760,8 +761,8 @@ public final class EnginesOnList {
 
         private int readBy(int boy) {
             int bits = 0;
-            for (int i = 0; holds(i); i++) {
-                if (boys[i] == boy) {
+            for (int i = 0; i < size; i++) {
+                if (holds(i) && boys[i] == boy) {
                     bits |= 1 << i;
                 }
             }
@@ -773,17 +774,21 @@ public final class EnginesOnList {
                     && numbers[i] == numbers[j] && days[i] == days[j] && places[i] != places[j];
         }
 
+        private int number(int i) {
+            return holds(i) ? numbers[i] : 0;
+        }
+
         private int greatestNumber() {
             int greatest = 0;
-            for (int i = 0; holds(i); i++) {
-                greatest = Math.max(greatest, numbers[i]);
+            for (int i = 0; i < size; i++) {
+                greatest = Math.max(greatest, number(i));
             }
             return greatest;
         }
 
         private int unlikeNumbers() {
             int unlike = 0;
-            for (int i = 0; holds(i); i++) {
+            for (int i = 0; i < size; i++) {
                 if (isFirstOfItsNumber(i)) {
                     unlike++;
                 }
@@ -792,8 +797,8 @@ public final class EnginesOnList {
         }
 
         private boolean isFirstOfItsNumber(int i) {
-            for (int j = 0; j < i && holds(i); j++) {
-                if (numbers[j] == numbers[i]) {
+            for (int j = 0; j < i; j++) {
+                if (number(j) == number(i)) {
                     return false;
                 }
             }
@@ -801,7 +806,7 @@ public final class EnginesOnList {
         }
     }
 
-    /** All that the image holds. */
+    /** Stands apart from the letters, the row and the refusals, for the image holds it and none of those. */
     private static final class World {
         private final Fleet fleet = new Fleet();
         private final Book book = new Book();
@@ -847,7 +852,7 @@ public final class EnginesOnList {
 
         private int everWorth() {
             int shown = 0;
-            for (int e = 0; fleet.knows(e); e++) {
+            for (int e = 0; e < fleet.size; e++) {
                 if (daysUntil(e, ANYWHERE) != NONE) {
                     shown |= fleet.bit(e);
                 }
@@ -871,8 +876,8 @@ public final class EnginesOnList {
             int read = book.numbers[reading];
             int passed = fleet.passing(book.places[reading], book.days[reading]);
             int bits = 0;
-            for (int e = 0; fleet.knows(e); e++) {
-                int number = fleet.numbers[e];
+            for (int e = 0; e < fleet.size; e++) {
+                int number = fleet.number(e);
                 if (right ? number == read : blurred(number) == blurred(read)) {
                     bits |= passed & fleet.bit(e);
                 }
@@ -900,7 +905,6 @@ public final class EnginesOnList {
         }
     }
 
-    /** Looks for the best plan. */
     private static final class Planner {
         private final int[] newThere = new int[MOST_PLAN_DAYS * PLACES];
         private final int[] tried = new int[MOST_PLAN_DAYS];
