@@ -5,6 +5,7 @@ public final class BookTest {
         readingsWrong();
         forgets();
         fits();
+        fitsNoOther();
         fitsByDayAndPlace();
         fitsWrong();
         madeUps();
@@ -75,6 +76,16 @@ public final class BookTest {
         Checks.due("count(2)", x.count(2), 0);
     }
 
+    /** Numbers that are near one another, or alike backwards, are still unlike. */
+    private static void fitsNoOther() {
+        EnginesOnList x = Checks.with("e19k00000000;e21k00000000;e30k00000000;e91k00000000;");
+        int[] numbers = {20, 18, 12, 29, 31, 13, 81, 90};
+        for (int i = 0; i < numbers.length; i++) {
+            x.reading(3, 0, numbers[i], 0);
+            Checks.due("fitting " + numbers[i], x.fitting(i, 0), 0);
+        }
+    }
+
     private static void fitsByDayAndPlace() {
         EnginesOnList x = Checks.with("e23c00123401;e28s09999999;");
         x.reading(0, 0, 23, 0);
@@ -87,6 +98,7 @@ public final class BookTest {
         Checks.due("fitting(2, 0)", x.fitting(2, 0), 3);
         Checks.due("fitting(2, 1)", x.fitting(2, 1), 2);
         Checks.due("fitting(3, 0)", x.fitting(3, 0), 3);
+        Checks.land(x, "u23;");
         x.rest(5);
         Checks.due("fitting(0, 0) later", x.fitting(0, 0), 1);
         // A third one comes: from now on the second is swapped with it.
