@@ -30,6 +30,7 @@ public final class EnginesOnList {
     private static final int BOYS = 4;
     private static final int MOST_IN_ROW = 14;
     private static final int KINDS_OF_REFUSALS = 6;
+    private static final int WITHOUT_SIGN = 0x7fffffff;
 
     private static final int AWAY = 1;
     private static final int WORKS = 2;
@@ -835,7 +836,7 @@ public final class EnginesOnList {
             int standIns = 0;
             for (int i = 0; i < n; i++) {
                 z = z * 1664525 + 1013904223;
-                standIns |= newAt((z & Integer.MAX_VALUE) / 256 % PLACES, today + i);
+                standIns |= newAt((z & WITHOUT_SIGN) / 256 % PLACES, today + i);
             }
             return fleet.worth(standIns);
         }

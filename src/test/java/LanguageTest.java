@@ -22,10 +22,20 @@ public final class LanguageTest {
             Pattern pattern = Pattern.compile((word ? "\\b" : "") + Pattern.quote(forbidden) + (word ? "\\b" : ""));
             Checks.holds("no " + forbidden, !pattern.matcher(code).find());
         }
+        libraryIsListed(code);
         staticsAreFinal(code);
         classesAreStatic(code);
         methodsAreShort(code);
         Checks.end("LanguageTest");
+    }
+
+    /** Of the library's classes only the functions that rule 4 lists are named, and none of their constants. */
+    private static void libraryIsListed(String code) {
+        Matcher named = Pattern.compile("\\b(Math|Integer|Long|System|Arrays|String|Character|Boolean|List)\\.\\w+\\(?").matcher(code);
+        Pattern listed = Pattern.compile("Math\\.(min|max|abs)\\(|Integer\\.bitCount\\(|System\\.arraycopy\\(");
+        while (named.find()) {
+            Checks.holds("listed: " + named.group(), listed.matcher(named.group()).matches());
+        }
     }
 
     private static void staticsAreFinal(String code) {

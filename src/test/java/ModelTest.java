@@ -101,7 +101,7 @@ public final class ModelTest {
     }
 
     private void anyCall(int function, boolean wild) {
-        int engine = argument(0, Math.max(0, x.count(0) - 1), wild);
+        int engine = argument(0, Math.max(0, model.count(0) - 1), wild);
         int place = argument(0, 4, wild);
         int what = argument(0, 1, wild);
         switch (function) {
@@ -133,10 +133,10 @@ public final class ModelTest {
                 compare(function, argument(1, 5, wild), argument(0, 20, wild), argument(-1, 4, wild), 0);
                 break;
             case 16:
-                compare(function, x.count(1) + argument(0, 2, wild), place, readNumber(wild), argument(0, 3, wild));
+                compare(function, model.count(1) + argument(0, 2, wild), place, readNumber(wild), argument(0, 3, wild));
                 break;
             case 18:
-                compare(function, argument(0, Math.max(0, x.count(4) - 1), wild), what, 0, 0);
+                compare(function, argument(0, Math.max(0, model.count(4) - 1), wild), what, 0, 0);
                 break;
             case 23:
                 compare(function, argument(1, 60, wild) / (1 + below(9)), what, 0, 0);

@@ -71,41 +71,24 @@ public final class RefusalTest {
             int more = what == 10 - code ? 2 : 0;
             Checks.due("count(" + what + ") behind " + name, x.count(what), twin.count(what) + more);
         }
-        sameFromNow(name, x, twin);
+        Checks.same("behind " + name, x, twin);
+        sameFromNow(making, name, call);
     }
 
-    private static void sameFromNow(String name, EnginesOnList x, EnginesOnList twin) {
-        same(name, x, twin);
+    /** Other objects than those that were asked all, to keep within 512 calls each. */
+    private static void sameFromNow(Making making, String name, Call call) {
+        EnginesOnList x = making.make();
+        EnginesOnList twin = making.make();
+        call.on(x);
         Checks.due("letter behind " + name, x.letter('1'), twin.letter('1'));
         Checks.due("letter behind " + name, x.letter(';'), twin.letter(';'));
         Checks.due("land behind " + name, x.land(), twin.land());
         Checks.due("row behind " + name, x.row(0), twin.row(0));
         Checks.due("judge behind " + name, x.judge(5), twin.judge(5));
         Checks.due("stand behind " + name, x.stand(4), twin.stand(4));
-        same(name + ", land", x, twin);
-        Checks.due("on behind " + name, x.on(), twin.on());
-        same(name + ", on", x, twin);
-    }
-
-    private static void same(String name, EnginesOnList x, EnginesOnList twin) {
-        for (int what = 0; what <= 7; what++) {
-            Checks.due("count(" + what + ") behind " + name, x.count(what), twin.count(what));
-        }
-        for (int engine = 0; engine < twin.count(0); engine++) {
-            for (int what = 3; what <= 5; what++) {
-                Checks.due("engine behind " + name, x.engine(engine, what), twin.engine(engine, what));
-            }
-            Checks.due("at behind " + name, x.at(engine, 9), twin.at(engine, 9));
-            Checks.due("turn behind " + name, x.turn(engine, 3), twin.turn(engine, 3));
-        }
-        for (int reading = 0; reading < twin.count(4); reading++) {
-            Checks.due("fitting behind " + name, x.fitting(reading, 0), twin.fitting(reading, 0));
-        }
-        Checks.due("plan behind " + name, x.plan(4, 7, -1), twin.plan(4, 7, -1));
-        Checks.due("clash behind " + name, x.clash(1), twin.clash(1));
-        Checks.due("many behind " + name, x.many(), twin.many());
-        Checks.due("liars behind " + name, x.liars(), twin.liars());
         Checks.due("more behind " + name, x.more(), twin.more());
+        Checks.due("on behind " + name, x.on(), twin.on());
+        Checks.same("behind on and " + name, x, twin);
     }
 
     private static void some(String name, int code, Call call) {
@@ -147,6 +130,7 @@ public final class RefusalTest {
         some("stand(-1)", -1, x -> x.stand(-1));
         some("stand(9)", -1, x -> x.stand(9));
         some("stand(max)", -1, x -> x.stand(MAX));
+        some("stand(min)", -1, x -> x.stand(MIN));
         some("rest(0)", -4, x -> x.rest(0));
         some("rest(min)", -4, x -> x.rest(MIN));
         some("rest(61)", -6, x -> x.rest(61));
@@ -169,6 +153,11 @@ public final class RefusalTest {
     }
 
     private static void ofPlans() {
+        some("plan(0, 0, -1)", -4, x -> x.plan(0, 0, -1));
+        some("plan(1, -1, -1)", -4, x -> x.plan(1, -1, -1));
+        some("plan(1, 0, -2)", -4, x -> x.plan(1, 0, -2));
+        some("plan(6, 0, -1)", -6, x -> x.plan(6, 0, -1));
+        some("plan(1, 21, -1)", -6, x -> x.plan(1, 21, -1));
         some("plan(0, 21, 0)", -4, x -> x.plan(0, 21, 0));
         some("plan(6, -1, 0)", -4, x -> x.plan(6, -1, 0));
         some("plan(6, 21, -2)", -4, x -> x.plan(6, 21, -2));
@@ -183,6 +172,7 @@ public final class RefusalTest {
         some("await(0, 5)", -1, x -> x.await(0, 5));
         some("await(0, -1)", -1, x -> x.await(0, -1));
         some("await(0, 9)", -1, x -> x.await(0, 9));
+        some("await(7, 5)", -1, x -> x.await(7, 5));
         some("chase(7)", -1, x -> x.chase(7));
         some("chase(-1)", -1, x -> x.chase(-1));
         some("chase(max)", -1, x -> x.chase(MAX));
@@ -192,6 +182,9 @@ public final class RefusalTest {
         some("reading by place 5", -1, x -> x.reading(-1, 5, 9, 0));
         some("reading by place -1", -1, x -> x.reading(1101, -1, 100, 0));
         some("reading by boy 4", -1, x -> x.reading(-1, 0, 9, 4));
+        some("reading by boy 5", -1, x -> x.reading(0, 0, 10, 5));
+        some("reading by boy max", -1, x -> x.reading(0, 0, 10, MAX));
+        some("reading at place 9", -1, x -> x.reading(0, 9, 10, 0));
         some("reading by boy -1", -1, x -> x.reading(1101, 0, 100, -1));
         some("reading on day -1", -4, x -> x.reading(-1, 0, 100, 0));
         some("reading on day min", -4, x -> x.reading(MIN, 0, 10, 0));
@@ -229,6 +222,10 @@ public final class RefusalTest {
 
     private static void whenFull() {
         refused(RefusalTest::full, "letter 65", -6, x -> x.letter('u'));
+        refused(RefusalTest::full, "letter(256) when full", -6, x -> x.letter(256));
+        refused(RefusalTest::full, "row(10) when full", -6, x -> x.row(10));
+        refused(RefusalTest::full, "reading 13 of 100", -6, x -> x.reading(0, 0, 100, 0));
+        refused(RefusalTest::full, "reading 13 by boy 4", -1, x -> x.reading(-1, 0, 9, 4));
         refused(RefusalTest::full, "letter(-1) when full", -4, x -> x.letter(-1));
         refused(RefusalTest::full, "reading 13", -6, x -> x.reading(0, 0, 10, 0));
         refused(RefusalTest::full, "reading 13 of 9", -4, x -> x.reading(0, 0, 9, 0));
@@ -248,6 +245,12 @@ public final class RefusalTest {
         refused(EnginesOnList::new, "await(0, 0)", -1, x -> x.await(0, 0));
         refused(EnginesOnList::new, "chase(0)", -1, x -> x.chase(0));
         refused(EnginesOnList::new, "judge(0)", -1, x -> x.judge(0));
+        refused(EnginesOnList::new, "await(0, 5)", -1, x -> x.await(0, 5));
+        refused(EnginesOnList::new, "engine(0, 7)", -1, x -> x.engine(0, 7));
+        refused(EnginesOnList::new, "turn(0, 7)", -1, x -> x.turn(0, 7));
+        refused(EnginesOnList::new, "at(0, -1)", -1, x -> x.at(0, -1));
+        refused(EnginesOnList::new, "underline(0, 2)", -1, x -> x.underline(0, 2));
+        refused(EnginesOnList::new, "fitting(0, 2)", -1, x -> x.fitting(0, 2));
         refused(EnginesOnList::new, "fitting(0, 0)", -1, x -> x.fitting(0, 0));
     }
 
@@ -255,6 +258,9 @@ public final class RefusalTest {
         refused(RefusalTest::late, "stand(0) on day 999", -6, x -> x.stand(0));
         refused(RefusalTest::late, "stand(5) on day 999", -1, x -> x.stand(5));
         refused(RefusalTest::late, "rest(1) on day 999", -6, x -> x.rest(1));
+        refused(RefusalTest::late, "rest(60) on day 999", -6, x -> x.rest(60));
+        refused(RefusalTest::late, "rest(-1) on day 999", -4, x -> x.rest(-1));
+        refused(RefusalTest::late, "stand(-1) on day 999", -1, x -> x.stand(-1));
         refused(RefusalTest::late, "rest(0) on day 999", -4, x -> x.rest(0));
     }
 }
