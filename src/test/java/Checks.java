@@ -1,14 +1,14 @@
 import java.util.function.IntSupplier;
 
 /** What the tests share: comparing answers, and telling a land in one go. */
-final class Checks {
+public final class Checks {
     private static int wrong = 0;
     private static int compared = 0;
 
     private Checks() {
     }
 
-    static void due(String call, int got, int want) {
+    public static void due(String call, int got, int want) {
         compared++;
         if (got != want) {
             wrong++;
