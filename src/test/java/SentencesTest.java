@@ -138,30 +138,28 @@ public final class SentencesTest {
 
     /** ""u" a NUMBER: underlined". */
     private static void underlinedByU() {
-        for (int e = 0; e < 4; e++) {
-            EnginesOnList x = Checks.with(APART, "u1" + e + ";");
-            for (int other = 0; other < 4; other++) {
-                Checks.due("engine(" + other + ", 4)", x.engine(other, 4), other == e ? 1 : 0);
-                Checks.due("engine(" + other + ", 5)", x.engine(other, 5), 0);
-            }
-            Checks.due("count(2)", x.count(2), 1);
-            Checks.due("underlined again", Checks.land(x, "u1" + e + ";u1" + e + ";"), 2);
-            Checks.due("count(2)", x.count(2), 1);
-            Checks.due("underline(" + e + ", 0)", x.underline(e, 0), 1);
-        }
+        onThisListAlone("u", 4, 5, 2);
+        EnginesOnList x = Checks.with(APART, "u12;");
+        Checks.due("underline(2, 0)", x.underline(2, 0), 1);
     }
 
     /** ""f" a NUMBER: on the FRIEND's list". */
     private static void onTheFriendsListByF() {
+        onThisListAlone("f", 5, 4, 7);
+    }
+
+    /** A list as engine() and count() tell of it, and the other list as engine() does. */
+    private static void onThisListAlone(String letter, int list, int otherList, int count) {
         for (int e = 0; e < 4; e++) {
-            EnginesOnList x = Checks.with(APART, "f1" + e + ";");
-            for (int other = 0; other < 4; other++) {
-                Checks.due("engine(" + other + ", 5)", x.engine(other, 5), other == e ? 1 : 0);
-                Checks.due("engine(" + other + ", 4)", x.engine(other, 4), 0);
+            String statement = letter + "1" + e + ";";
+            EnginesOnList x = Checks.with(APART, statement);
+            for (int one = 0; one < 4; one++) {
+                Checks.due("engine(" + one + ", " + list + ")", x.engine(one, list), one == e ? 1 : 0);
+                Checks.due("engine(" + one + ", " + otherList + ")", x.engine(one, otherList), 0);
             }
-            Checks.due("count(7)", x.count(7), 1);
-            Checks.due("told again", Checks.land(x, "f1" + e + ";f1" + e + ";"), 2);
-            Checks.due("count(7)", x.count(7), 1);
+            Checks.due("count(" + count + ")", x.count(count), 1);
+            Checks.due(statement + " twice more", Checks.land(x, statement + statement), 2);
+            Checks.due("count(" + count + "), once all the same", x.count(count), 1);
         }
     }
 
